@@ -181,6 +181,61 @@ public final class CaseTest {
     Due.is("calls that are never refused leave it", x.status(), 6);
   }
 
+  /** What stands behind a refusal tells 6 here, so that 0 can only come from the call itself. */
+  private static void accepted(MeetHouse x, String call, long got) {
+    Due.is("status behind " + call + " = " + got, x.status(), 0);
+    Due.refused(x, "nothing lies in 9", x.use(9), 6);
+  }
+
+  private static void accepted(MeetHouse x, String call, boolean got) {
+    Due.is(call, got, true);
+    accepted(x, call, 1);
+  }
+
+  private static void statusOfAll() {
+    MeetHouse x = house();
+    x.lay(0, 3, 0);
+    x.use(9);
+    for (int i = 0; i < 3; i++) accepted(x, "keeper", x.keeper(1, 1));
+    accepted(x, "tenths", x.tenths(0, 1));
+    accepted(x, "list", x.list(7));
+    accepted(x, "told", x.told());
+    accepted(x, "most", x.most(7));
+    accepted(x, "grid", x.grid(2, 2, 0));
+    accepted(x, "wall", x.wall(0, 2, 2, 0, 0, 0));
+    accepted(x, "tree", x.tree(2, 0));
+    accepted(x, "plane", x.plane(2, 0));
+    accepted(x, "join", x.join(0, 0, 1));
+    accepted(x, "dual", x.dual(0));
+    accepted(x, "thin", x.thin(0, 15));
+    accepted(x, "both", x.both(0, 1));
+    accepted(x, "better", x.better(0));
+    accepted(x, "has", x.has(0, 1));
+    accepted(x, "apart", x.apart(0, 0));
+    accepted(x, "hit", x.hit(0));
+    accepted(x, "falls", x.falls(0));
+    accepted(x, "liars", x.liars(0, false));
+    accepted(x, "chance", x.chance(0));
+    accepted(x, "even", x.even(0));
+    accepted(x, "part", x.part(0, 3));
+    accepted(x, "weight", x.weight(0, 3));
+    accepted(x, "bound", x.bound(0, false));
+    accepted(x, "proved", x.proved());
+    accepted(x, "witness", x.witness(0));
+    accepted(x, "forge", x.forge(0, 1));
+    accepted(x, "judge", x.judge(0));
+    accepted(x, "judge of another number", x.judge(1));
+    accepted(x, "lay", x.lay(1, 1, 0));
+    accepted(x, "lies", x.lies(1));
+    accepted(x, "taken", x.taken(1, 1, 0));
+    accepted(x, "taken of a plan", x.taken(0, 3, 0));
+    accepted(x, "copy", x.copy(0, 0, 0, 1, 1));
+    accepted(x, "use", x.use(0));
+    int split = Houses.told(x, 1, 2);
+    x.use(9);
+    accepted(x, "liars, NONE", x.liars(split, false));
+  }
+
   public static void main(String[] args) {
     lay();
     laidIsApart();
@@ -191,6 +246,7 @@ public final class CaseTest {
     use();
     size();
     status();
+    statusOfAll();
     Due.end();
   }
 }

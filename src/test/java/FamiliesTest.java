@@ -47,6 +47,15 @@ public final class FamiliesTest {
     Houses.quorums("one rules", x, x.most(13), 1, 4);
     Houses.quorums("of one", x, x.most(2), 1, 2);
     Houses.quorums("three of six are half", x, x.most(14), 1, 6, 12);
+    for (int[] s : new int[][] {{1, 3, 2, 5}, {5, 3, 2, 1}, {2, 5, 1, 3}, {3, 1, 5, 2}}) {
+      MeetHouse z = Houses.ofStrengths(s);
+      int strong = 0;
+      for (int k = 0; k < 4; k++) if (s[k] == 5) strong = 1 << k;
+      int[] due = new int[4];
+      for (int k = 0; k < 4; k++) due[k] = 1 << k == strong ? 15 - strong : strong + (1 << k);
+      java.util.Arrays.sort(due);
+      Houses.quorums("5 with one, or the others", z, z.most(15), 1, due);
+    }
     MeetHouse y = Houses.ofStrengths(1, 100, 1, 1);
     Houses.quorums("the strong one alone", y, y.most(15), 1, 2);
     for (int set : new int[] {0, 16, 31, -1, MIN}) Due.refused(y, "most " + set, y.most(set), 2);
@@ -166,6 +175,11 @@ public final class FamiliesTest {
     Houses.quorums("of a majority", x, x.dual(x.most(7)), 7, 3, 5, 6);
     Houses.quorums("twice is itself", x, x.dual(x.dual(x.grid(2, 2, 0))), 7, 7, 11, 12);
     for (int f : new int[] {-1, x.size(1), 24, MAX, MIN}) Due.refused(x, "dual " + f, x.dual(f), 1);
+    for (int n = 4; n <= 8; n++) {
+      MeetHouse few = Houses.equal(n);
+      int last = 1 << (n - 1);
+      Houses.quorums("among " + n, few, few.dual(Houses.told(few, 3, 4 + last)), 7, 5, 6, 1 + last, 2 + last);
+    }
     int pairs = Houses.told(x, 3, 12, 48, 192, 768, 3072);
     Due.is("64", x.family(x.dual(pairs), 1), 64);
     int seven = Houses.told(x, 3, 12, 48, 192, 768, 3072, 12288);
@@ -220,6 +234,11 @@ public final class FamiliesTest {
     Houses.quorums("none is better", x, x.better(x.most(7)), 10, 3, 5, 6);
     Houses.quorums("within its own keepers", x, x.better(Houses.told(x, 32768 | 64, 32768 | 128)), 10, 192, 32832, 32896);
     Houses.quorums("a grid: 5 comes, then 6; 7 has 5", x, x.better(x.grid(2, 2, 0)), 10, 5, 6, 11, 12);
+    meetsItsOwn(Houses.equal(9), 3);
+    meetsItsOwn(Houses.equal(12), 12);
+    meetsItsOwn(Houses.equal(15), 15);
+    comesBack(119, 4, 3, 2, 2, 3, 1, 2, 3, 1, 2);
+    comesBack(121, 3, 2, 1, 1, 4, 3, 4, 3, 3, 3);
     int split = Houses.told(x, 1, 2);
     int grid = x.grid(4, 4, 0);
     Due.refused(x, "two don't meet", x.better(split), 7);
@@ -229,6 +248,46 @@ public final class FamiliesTest {
     Due.refused(x, "don't meet ahead of no room", x.better(split), 7);
     Due.refused(x, "no room ahead of many", x.better(grid), 4);
     Due.refused(x, "none such ahead of no room", x.better(24), 1);
+  }
+
+  /** Of what can't be bettered the sets that meet it are those that it has. */
+  private static void meetsItsOwn(MeetHouse x, int last) {
+    int f = last == 3 ? x.grid(3, 3, 0) : x.tree(3, last - 7);
+    if (last == 15) f = x.join(f, 14, x.plane(2, 0));
+    int b = x.better(f);
+    int d = x.dual(b);
+    Due.is("it was made", b >= 0 && d >= 0, true);
+    Due.is("as many", x.family(b, 1), x.family(d, 1));
+    for (int i = 0; i < x.family(b, 1); i++) Due.is("quorum " + i, x.quorum(b, i), x.quorum(d, i));
+    for (int i = 0; i < x.family(f, 1); i++) Due.is("still enough", x.has(b, x.quorum(f, i)), 1);
+  }
+
+  /** Of a majority only the quorums that have the last keeper are told: the others come by their numbers. */
+  private static void comesBack(int quorums, int... strengths) {
+    MeetHouse x = Houses.ofStrengths(strengths);
+    int whole = 0;
+    for (int s : strengths) whole += s;
+    java.util.List<Integer> due = new java.util.ArrayList<>();
+    for (int set = 1; set < 1 << strengths.length; set++) {
+      int sum = 0;
+      int weakest = 100;
+      for (int k = 0; k < strengths.length; k++) {
+        if ((set >> k & 1) == 0) continue;
+        sum += strengths[k];
+        weakest = Math.min(weakest, strengths[k]);
+      }
+      if (2 * sum > whole && 2 * (sum - weakest) < whole) due.add(set);
+    }
+    Due.is("quorums of the majority", due.size(), quorums);
+    for (int set : due) if (set >> strengths.length - 1 == 1) x.list(set);
+    int f = x.told();
+    if (quorums > 120) {
+      Due.refused(x, "one too many", x.better(f), 3);
+      return;
+    }
+    int b = x.better(f);
+    Due.is("how many", x.family(b, 1), quorums);
+    for (int i = 0; i < quorums; i++) Due.is("quorum " + i, x.quorum(b, i), due.get(i));
   }
 
   private static void family() {

@@ -52,6 +52,8 @@ public final class MeetingsTest {
     hit(x, Houses.told(x, 7, 25, 42, 52), 12);
     hit(x, Houses.told(x, 3 | 128, 12 | 128, 48 | 128), 128);
     hit(x, x.plane(2, 0), 11);
+    hit(x, Houses.told(x, 5, 6), 4);
+    hit(x, Houses.told(x, 5 << 9, 6 << 9), 4 << 9);
     for (int i = 0; i < 16; i++) x.list(1 << i);
     hit(x, x.told(), 65535);
     for (int n : NO_FAMILY) {
@@ -59,6 +61,27 @@ public final class MeetingsTest {
       Due.refused(x, "hit " + none, x.hit(none), 1);
       Due.refused(x, "falls " + none, x.falls(none), 1);
     }
+  }
+
+  /** A smaller family stands where a greater one was taken back. */
+  private static void behindUndo() {
+    MeetHouse x = Houses.equal(5);
+    Houses.told(x, 1, 2, 4, 8, 16);
+    x.undo();
+    int f = Houses.told(x, 24);
+    Due.is("all keepers", x.family(f, 2), 24);
+    Due.is("fewest", x.family(f, 3), 2);
+    Due.is("has", x.has(f, 7), 0);
+    Due.is("hit", x.hit(f), 8);
+    Due.is("liars", x.liars(f, false), 1);
+    Due.is("chance", x.chance(f), 2500000000000000L);
+    Due.is("apart", x.apart(f, f), -2);
+    x.undo();
+    f = Houses.told(x, 24, 20);
+    Due.is("shared", x.liars(f, false), 0);
+    Due.is("fewest of two", x.family(f, 3), 2);
+    Due.is("witness", x.witness(f), 1);
+    Due.is("judge", x.judge(f), -2);
   }
 
   private static void hit(MeetHouse x, int f, int set) {
@@ -80,6 +103,8 @@ public final class MeetingsTest {
       Due.is("twice, shared " + s[0], x.liars(f, true), s[2]);
       Due.is("accepted", x.status(), 0);
     }
+    Due.is("neighbours share the fewest", x.liars(Houses.told(x, 15, 113, 179), false), 0);
+    Due.is("the last two share the fewest", x.liars(Houses.told(x, 7, 11 | 16, 37 | 64), false), 0);
     int one = Houses.told(x, 31);
     Due.is("of one: how many it has", x.liars(one, false), 4);
     Due.is("twice of one", x.liars(one, true), 2);
@@ -118,6 +143,7 @@ public final class MeetingsTest {
     has();
     apart();
     hitAndFalls();
+    behindUndo();
     liars();
     chance();
     Due.end();

@@ -79,6 +79,11 @@ public final class PlansTest {
     x.keeper(0, 0);
     for (int w : new int[] {-1, 4, MAX, MIN}) Due.is("what " + w, x.load(w), -1);
     Due.is("the status is of keeper()", x.status(), 2);
+    x.bound(0, false);
+    x.even(0);
+    Due.is("the lower one alone", x.load(2), 2);
+    x.bound(0, false);
+    Due.is("the upper one alone", x.load(1), 1);
     MeetHouse y = Houses.ofStrengths(100, 100);
     y.even(Houses.told(y, 2));
     loadIs("the strongest", y, 0, 1, 100, 1);
@@ -190,6 +195,19 @@ public final class PlansTest {
     Due.is("even", y.proved(), 0);
     y.weight(3, 3);
     Due.is("weights uneven", y.proved(), 1);
+    MeetHouse z = Houses.equal(2);
+    z.even(Houses.told(z, 1));
+    z.weight(0, 1);
+    Due.is("1 of 1", z.proved(), 0);
+    z.weight(1, 1);
+    Due.is("1 of 1 beside 1 of 2", z.proved(), 1);
+    MeetHouse w = Houses.ofStrengths(2, 1);
+    w.even(Houses.told(w, 1, 2));
+    w.weight(0, 1);
+    w.weight(1, 1);
+    Due.is("1 of 2 beside 1 of 3", w.proved(), 1);
+    w.part(0, 2);
+    Due.is("1 of 3", w.proved(), 0);
   }
 
   public static void main(String[] args) {
