@@ -68,8 +68,7 @@ public final class MeetHouse {
     private final Thing[] places = new Thing[PLACES];
     private final History history = new History();
     private final Sheet sheet = new Sheet();
-    private final Pot pot = new Pot();
-    private final Gatherer gatherer = new Gatherer(pot, keepers);
+    private final Gatherer gatherer = new Gatherer();
     private final Fraction fraction = new Fraction();
     private int latestStatus = ACCEPTED;
 
@@ -153,9 +152,9 @@ public final class MeetHouse {
         if (!roomForFamily()) {
             return refuse(NO_ROOM);
         }
-        pot.clear(keepers.count);
+        gatherer.begin(keepers.count);
         for (int i = 0; i < toldCount && i < QUORUMS; i++) {
-            pot.put(toldSets[i]);
+            gatherer.pot.put(toldSets[i]);
         }
         toldCount = 0;
         return settleGathered(TOLD);
@@ -168,7 +167,8 @@ public final class MeetHouse {
         if (!roomForFamily()) {
             return refuse(NO_ROOM);
         }
-        gatherer.gatherMost(set);
+        gatherer.begin(keepers.count);
+        gatherer.gatherMost(keepers, set);
         return settleGathered(MOST);
     }
 
@@ -208,6 +208,7 @@ public final class MeetHouse {
         if (!roomForFamily()) {
             return refuse(NO_ROOM);
         }
+        gatherer.begin(keepers.count);
         gatherer.gatherTree(nodes, first);
         return settleGathered(TREE);
     }
@@ -223,6 +224,7 @@ public final class MeetHouse {
         if (!roomForFamily()) {
             return refuse(NO_ROOM);
         }
+        gatherer.begin(keepers.count);
         gatherer.gatherPlane(points, first);
         return settleGathered(PLANE);
     }
@@ -236,6 +238,7 @@ public final class MeetHouse {
         if (!roomForFamily()) {
             return refuse(NO_ROOM);
         }
+        gatherer.begin(keepers.count);
         gatherer.gatherJoin(one, keeper, other);
         return settleGathered(JOIN);
     }
@@ -248,6 +251,7 @@ public final class MeetHouse {
         if (!roomForFamily()) {
             return refuse(NO_ROOM);
         }
+        gatherer.begin(keepers.count);
         gatherer.gatherMeeting(one);
         return settle(DUAL);
     }
@@ -263,6 +267,7 @@ public final class MeetHouse {
         if (!one.isHeldBy(set)) {
             return refuse(NO_SET);
         }
+        gatherer.begin(keepers.count);
         gatherer.gatherWithin(one, set);
         return settleGathered(THIN);
     }
@@ -276,6 +281,7 @@ public final class MeetHouse {
         if (!roomForFamily()) {
             return refuse(NO_ROOM);
         }
+        gatherer.begin(keepers.count);
         gatherer.gatherBoth(one, other);
         return settleGathered(BOTH);
     }
@@ -291,6 +297,7 @@ public final class MeetHouse {
         if (!roomForFamily()) {
             return refuse(NO_ROOM);
         }
+        gatherer.begin(keepers.count);
         gatherer.gatherBetter(one);
         return settle(BETTER);
     }
@@ -346,26 +353,27 @@ public final class MeetHouse {
         if (!roomForFamily()) {
             return refuse(NO_ROOM);
         }
+        gatherer.begin(keepers.count);
         gatherer.gatherRows(first);
         return settleGathered(kind);
     }
 
     private int settleGathered(int kind) {
-        pot.closeUpwards();
+        gatherer.pot.closeUpwards();
         return settle(kind);
     }
 
-    /** The pot has, with each set, all sets that it is within: so its least sets are found a keeper at a time. */
+    /** The pot is closed upwards by now: its least sets are then found a keeper at a time. */
     private int settle(int kind) {
-        pot.keepLeast();
-        if (pot.countSets() > QUORUMS) {
+        gatherer.pot.keepLeast();
+        if (gatherer.pot.countSets() > QUORUMS) {
             return refuse(MANY);
         }
         int number = familyCount;
         if (number < 0 || number >= FAMILIES) {
             return refuse(NO_ROOM);
         }
-        families[number].take(kind, pot);
+        families[number].take(kind, gatherer.pot);
         familyCount = number + 1;
         history.open(FAMILY_CAME, number, 0);
         return accept(number);
@@ -423,9 +431,10 @@ public final class MeetHouse {
         if (one == null) {
             return refuse(NONE_SUCH);
         }
+        gatherer.begin(keepers.count);
         gatherer.gatherHolding(one);
         latestStatus = ACCEPTED;
-        return pot.chanceOfSets(keepers);
+        return gatherer.pot.chanceOfSets(keepers);
     }
 
     private static int firstApart(Family one, Family other) {
@@ -440,9 +449,10 @@ public final class MeetHouse {
     }
 
     private int smallestMeeting(Family one) {
+        gatherer.begin(keepers.count);
         gatherer.gatherMeeting(one);
-        pot.keepLeast();
-        return pot.smallestSet();
+        gatherer.pot.keepLeast();
+        return gatherer.pot.smallestSet();
     }
 
     // ---- plans and weights
@@ -557,8 +567,8 @@ public final class MeetHouse {
     }
 
     private void reckonBound(Family one) {
-        int least = Integer.MAX_VALUE;
-        for (int i = 0; i < one.count; i++) {
+        int least = keepers.weightOf(one.sets[0]);
+        for (int i = 1; i < one.count; i++) {
             least = Math.min(least, keepers.weightOf(one.sets[i]));
         }
         fraction.become(least, keepers.weightTimesStrength());
@@ -1162,7 +1172,7 @@ public final class MeetHouse {
             }
         }
 
-        /** A set meets all that are in a closed pot if its rest isn't in: the rests have the words and bits turned round. */
+        /** A set meets all of a closed pot if its rest isn't in; the rests stand in the order turned round. */
         void turnIntoMeeting() {
             for (int i = 0, j = used - 1; i <= j; i++, j--) {
                 long front = ~flippedWord(words[i], 63);
@@ -1172,7 +1182,7 @@ public final class MeetHouse {
             }
         }
 
-        /** Puts in, by their numbers, sets within all that are out while the rest is; it ends when more than enough came. */
+        /** Puts in, by their numbers, sets within all that are out while their rest is, until too many came. */
         void complete(int all, int enough) {
             int came = 0;
             for (int set = nextOpen(0, all); set >= 0 && came <= enough; set = nextOpen(set, all)) {
@@ -1327,61 +1337,63 @@ public final class MeetHouse {
         /** A tree of depth 4 has 305 sets at all its nodes; rows have fewer ways to choose. */
         private static final int WAYS = 320;
 
-        final Pot pot;
-        final Keepers keepers;
+        final Pot pot = new Pot();
         final int[] ways = new int[WAYS];
         final int[] starts = new int[KEEPERS];
         final int[] lengths = new int[GREATEST_LENGTH];
         int rowCount = 0;
         boolean rowsEnded = false;
-        final int[] byStrength = new int[KEEPERS];
+        final int[] bits = new int[KEEPERS];
+        final int[] strengths = new int[KEEPERS];
         int strongCount = 0;
         int found = 0;
 
-        Gatherer(Pot pot, Keepers keepers) {
-            this.pot = pot;
-            this.keepers = keepers;
+        void begin(int keeperCount) {
+            pot.clear(keeperCount);
         }
 
         /** Strong keepers first: then the one that makes a set enough is its weakest, and without any it isn't. */
-        void gatherMost(int set) {
-            pot.clear(keepers.count);
-            orderByStrength(set);
-            found = 0;
-            int strength = keepers.strengthOf(set);
-            takeStrong(0, 0, strength, strength);
-        }
-
-        /** Lacking is the strength of the whole less twice that of the chosen: they are enough when it is below 0. */
-        private void takeStrong(int at, int chosen, int lacking, int left) {
-            boolean canBeEnough = 2 * left > lacking;
-            if (at < 0 || at >= strongCount || at >= KEEPERS || !canBeEnough || found > QUORUMS) {
-                return;
-            }
-            int keeper = byStrength[at];
-            int strength = keepers.isThere(keeper) ? keepers.strengths[keeper] : 0;
-            int with = chosen | (1 << keeper);
-            if (2 * strength > lacking) {
-                pot.put(with);
-                found++;
-            } else {
-                takeStrong(at + 1, with, lacking - 2 * strength, left - strength);
-            }
-            takeStrong(at + 1, chosen, lacking, left - strength);
-        }
-
-        private void orderByStrength(int set) {
+        void gatherMost(Keepers keepers, int set) {
             strongCount = 0;
             for (int k = 0; k < keepers.count && k < KEEPERS; k++) {
                 if (((set >> k) & 1) != 0) {
-                    int at = strongCount;
-                    for (; at > 0 && keepers.strengths[byStrength[at - 1]] < keepers.strengths[k]; at--) {
-                        byStrength[at] = byStrength[at - 1];
-                    }
-                    byStrength[at] = k;
-                    strongCount++;
+                    orderByStrength(1 << k, keepers.strengths[k]);
                 }
             }
+            found = 0;
+            int whole = keepers.strengthOf(set);
+            takeStrong(this, 0, 0, whole, whole);
+        }
+
+        private void orderByStrength(int bit, int strength) {
+            if (strongCount < 0 || strongCount >= KEEPERS) {
+                return;
+            }
+            int at = strongCount;
+            for (; at > 0 && strengths[at - 1] < strength; at--) {
+                bits[at] = bits[at - 1];
+                strengths[at] = strengths[at - 1];
+            }
+            bits[at] = bit;
+            strengths[at] = strength;
+            strongCount++;
+        }
+
+        /** Lacking is the whole's strength less twice that of the chosen: below 0 they are enough. */
+        private static void takeStrong(Gatherer to, int at, int chosen, int lacking, int left) {
+            boolean canBeEnough = 2 * left > lacking;
+            if (at < 0 || at >= to.strongCount || at >= KEEPERS || !canBeEnough || to.found > QUORUMS) {
+                return;
+            }
+            int strength = to.strengths[at];
+            int with = chosen | to.bits[at];
+            if (2 * strength > lacking) {
+                to.pot.put(with);
+                to.found++;
+            } else {
+                takeStrong(to, at + 1, with, lacking - 2 * strength, left - strength);
+            }
+            takeStrong(to, at + 1, chosen, lacking, left - strength);
         }
 
         void dropRows() {
@@ -1410,7 +1422,6 @@ public final class MeetHouse {
 
         /** From the last row up, as the ways to choose one of each row below grow with each row. */
         void gatherRows(int first) {
-            pot.clear(keepers.count);
             int start = first + keepersOfRows();
             int count = 1;
             ways[0] = 0;
@@ -1441,7 +1452,6 @@ public final class MeetHouse {
 
         /** From the last node up: the sets of node c stand from starts[c] to starts[c - 1]. */
         void gatherTree(int nodes, int first) {
-            pot.clear(keepers.count);
             int end = 0;
             for (int node = Math.min(nodes, KEEPERS - 1); node >= 1; node--) {
                 starts[node] = end;
@@ -1486,7 +1496,6 @@ public final class MeetHouse {
         }
 
         void gatherPlane(int points, int first) {
-            pot.clear(keepers.count);
             for (int i = 0; i < points; i++) {
                 int line = point(i, points) | point(i + 1, points) | point(i + 3, points);
                 if (points == 13) {
@@ -1501,7 +1510,6 @@ public final class MeetHouse {
         }
 
         void gatherJoin(Family one, int keeper, Family other) {
-            pot.clear(keepers.count);
             int joined = 1 << keeper;
             for (int i = 0; i < one.count; i++) {
                 if ((one.sets[i] & joined) == 0) {
@@ -1513,7 +1521,6 @@ public final class MeetHouse {
         }
 
         void gatherBoth(Family one, Family other) {
-            pot.clear(keepers.count);
             for (int i = 0; i < one.count; i++) {
                 putWithEach(one.sets[i], other);
             }
@@ -1526,7 +1533,6 @@ public final class MeetHouse {
         }
 
         void gatherWithin(Family one, int set) {
-            pot.clear(keepers.count);
             for (int i = 0; i < one.count; i++) {
                 if ((one.sets[i] & ~set) == 0) {
                     pot.put(one.sets[i]);
@@ -1546,7 +1552,7 @@ public final class MeetHouse {
             pot.turnIntoMeeting();
         }
 
-        /** A set that came has none of the others within it at the end: so more than QUORUMS of them are MANY. */
+        /** No other set is within one that came, nor will be: so more than QUORUMS of them are MANY. */
         void gatherBetter(Family one) {
             gatherHolding(one);
             pot.complete(one.allKeepers(), QUORUMS);

@@ -106,6 +106,30 @@ public final class PlansTest {
     Due.is("of 15: lower", x.loadOf(15, true), 104999);
   }
 
+  private static void widestPlan() {
+    MeetHouse x = Houses.equal(16);
+    for (int a = 0; a < 16; a++) for (int b = 0; b < a; b++) x.list(1 << a | 1 << b);
+    int f = x.told();
+    Due.is("120 parts", x.even(f), true);
+    loadIs("even", x, f, 1, 8, 0);
+    Due.is("the last", x.part(119, 1000), true);
+    Due.is("behind it", x.partOf(120), -1);
+    loadIs("the last two keepers", x, f, 338, 373, 14);
+    x.lay(0, 3, 0);
+    Due.is("all go over", x.copy(0, 0, 0, 0, 120), 1);
+    Due.is("all but one go down", x.copy(0, 1, 0, 0, 119), 1);
+    Due.is("the last moved", x.taken(0, 3, 118), 1000);
+    Due.is("the last stays", x.taken(0, 3, 119), 1000);
+    Due.is("used", x.use(0), 1);
+    loadIs("two of 1000", x, f, 671, 706, 15);
+    x.even(Houses.told(x, 1, 2, 4));
+    loadIs("of three", x, f + 1, 1, 3, 0);
+    Due.is("no more parts than three", x.partOf(3), -1);
+    x.undo();
+    Due.is("back", x.partOf(118), 1000);
+    Due.is("no weights", x.proved(), 1);
+  }
+
   private static void loadOf() {
     MeetHouse x = house();
     Due.is("no plan", x.loadOf(0, false), -1);
@@ -217,6 +241,7 @@ public final class PlansTest {
     load();
     loadOf();
     loadOfWideParts();
+    widestPlan();
     weight();
     bound();
     boundOfGreatWeights();
