@@ -291,7 +291,7 @@ public final class MeetHouse {
         if (one == null) {
             return refuse(NONE_SUCH);
         }
-        if (firstApart(one, one) != ALL_MEET) {
+        if (firstApart(one, one, true) != ALL_MEET) {
             return refuse(DONT_MEET);
         }
         if (!roomForFamily()) {
@@ -395,7 +395,7 @@ public final class MeetHouse {
         if (one == null || other == null) {
             return refuse(NONE_SUCH);
         }
-        return accept(firstApart(one, other));
+        return accept(firstApart(one, other, f == g));
     }
 
     public int hit(int f) {
@@ -437,9 +437,9 @@ public final class MeetHouse {
         return gatherer.pot.chanceOfSets(keepers);
     }
 
-    private static int firstApart(Family one, Family other) {
+    private static int firstApart(Family one, Family other, boolean sameFamily) {
         for (int i = 0; i < one.count; i++) {
-            for (int j = one == other ? i + 1 : 0; j < other.count; j++) {
+            for (int j = sameFamily ? i + 1 : 0; j < other.count; j++) {
                 if ((one.sets[i] & other.sets[j]) == 0) {
                     return 1000 * i + j;
                 }
@@ -1229,14 +1229,13 @@ public final class MeetHouse {
         }
 
         int smallestSet() {
-            int best = NONE;
-            int bestKeepers = KEEPERS + 1;
-            for (int set = next(0); set >= 0 && set < LOW_SETS * WORDS; set = next(set + 1)) {
-                int setKeepers = Integer.bitCount(set);
-                if (setKeepers < bestKeepers) {
+            int best = next(0);
+            int set = best;
+            for (int turn = 0; turn < LOW_SETS * WORDS && set >= 0; turn++) {
+                if (Integer.bitCount(set) < Integer.bitCount(best)) {
                     best = set;
-                    bestKeepers = setKeepers;
                 }
+                set = next(set + 1);
             }
             return best;
         }
