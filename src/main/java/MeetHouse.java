@@ -1175,34 +1175,31 @@ public final class MeetHouse {
         /** A set meets all of a closed pot if its rest isn't in; the rests stand in the order turned round. */
         void turnIntoMeeting() {
             for (int i = 0, j = used - 1; i <= j; i++, j--) {
-                long front = ~flippedWord(words[i], 63);
-                long back = ~flippedWord(words[j], 63);
+                long front = ~turnedWord(words[i]);
+                long back = ~turnedWord(words[j]);
                 words[i] = back;
                 words[j] = front;
             }
         }
 
-        /** Puts in, by their numbers, sets within all that are out while their rest is, until too many came. */
-        void complete(int all, int enough) {
+        /** Puts in, by their numbers, sets that are out while their rest is, until too many came. */
+        void complete(int enough) {
             int came = 0;
-            for (int set = nextOpen(0, all); set >= 0 && came <= enough; set = nextOpen(set, all)) {
+            for (int set = nextOpen(0); set >= 0 && came <= enough; set = nextOpen(set)) {
                 putUpwards(set);
                 came++;
             }
         }
 
-        /** No set before one that was open can open again: so the search goes on in its word. */
-        private int nextOpen(int from, int all) {
-            int high = all >>> LOW_KEEPERS;
-            int low = all & 63;
-            long within = withinWord(low);
-            for (int i = from >>> LOW_KEEPERS; i < used && i <= high; i++) {
-                int rest = high - i;
-                if ((i & ~high) == 0 && rest < used) {
-                    long open = ~words[i] & ~flippedWord(words[rest], low) & within;
-                    if (open != 0L) {
-                        return (i << LOW_KEEPERS) + lowestBit(open);
-                    }
+        /**
+         * No set before one that was open can open again: so the search goes on in its word. A keeper of no
+         * quorum opens and closes nothing, and the least open set has none: so the rest may be that of all.
+         */
+        private int nextOpen(int from) {
+            for (int i = from >>> LOW_KEEPERS; i < used; i++) {
+                long open = ~words[i] & ~turnedWord(words[used - 1 - i]);
+                if (open != 0L) {
+                    return (i << LOW_KEEPERS) + lowestBit(open);
                 }
             }
             return NONE;
@@ -1307,27 +1304,14 @@ public final class MeetHouse {
             return grown;
         }
 
-        /** Each set of the word changed in the keepers of low. */
-        private static long flippedWord(long word, int low) {
-            long flipped = word;
+        /** Each set of the word becomes the rest of the low keepers. */
+        private static long turnedWord(long word) {
+            long turned = word;
             for (int keeper = 0; keeper < LOW_KEEPERS; keeper++) {
-                if (((low >> keeper) & 1) != 0) {
-                    int step = 1 << keeper;
-                    flipped = ((flipped & WITHOUT[keeper]) << step) | ((flipped >>> step) & WITHOUT[keeper]);
-                }
+                int step = 1 << keeper;
+                turned = ((turned & WITHOUT[keeper]) << step) | ((turned >>> step) & WITHOUT[keeper]);
             }
-            return flipped;
-        }
-
-        /** The bits of all sets within low. */
-        private static long withinWord(int low) {
-            long within = -1L;
-            for (int keeper = 0; keeper < LOW_KEEPERS; keeper++) {
-                if (((low >> keeper) & 1) == 0) {
-                    within &= WITHOUT[keeper];
-                }
-            }
-            return within;
+            return turned;
         }
     }
 
@@ -1554,7 +1538,7 @@ public final class MeetHouse {
         /** No other set is within one that came, nor will be: so more than QUORUMS of them are MANY. */
         void gatherBetter(Family one) {
             gatherHolding(one);
-            pot.complete(one.allKeepers(), QUORUMS);
+            pot.complete(QUORUMS);
         }
     }
 }

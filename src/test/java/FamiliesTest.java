@@ -15,11 +15,6 @@ public final class FamiliesTest {
     return Houses.filled(sixteen());
   }
 
-  /** A majority of these ten has 120 QUORUMS. */
-  private static MeetHouse with120() {
-    return Houses.ofStrengths(5, 4, 3, 3, 2, 2, 2, 2, 2, 1);
-  }
-
   /** A majority of these nine has 121 QUORUMS. */
   private static MeetHouse with121() {
     return Houses.ofStrengths(4, 4, 4, 3, 3, 3, 3, 3, 3);
@@ -198,9 +193,12 @@ public final class FamiliesTest {
   }
 
   static void promise07_most_of_120_quorums_is_made() {
-    MeetHouse x = with120();
-    Due.accepted(x, "most(1023)", 0, h -> h.most(1023));
-    Due.is("quorums", x.family(0, 1), 120);
+    int[][] orders = {{5, 4, 3, 3, 2, 2, 2, 2, 2, 1}, {1, 2, 2, 2, 2, 2, 3, 3, 4, 5}, {1, 5, 4, 3, 3, 2, 2, 2, 2, 2}};
+    for (int[] strengths : orders) {
+      MeetHouse x = Houses.ofStrengths(strengths);
+      Due.accepted(x, "most(1023)", 0, h -> h.most(1023));
+      Due.is("quorums", x.family(0, 1), 120);
+    }
   }
 
   static void promise07_most_of_121_quorums_refused_3() {

@@ -141,6 +141,12 @@ public final class MadeOfOthersTest {
     Houses.quorums("of 120 pairs", x, x.dual(Houses.told(x, Houses.pairs(0, 16))), 7, due);
   }
 
+  static void promise13_dual_of_an_older_family() {
+    MeetHouse x = Houses.ofFamilies(16, Houses.sets(3, 12), Houses.sets(1, 16, 32768));
+    Houses.quorums("of 3 12", x, x.dual(0), 7, 5, 6, 9, 10);
+    Houses.quorums("of 3 12 again", x, x.dual(0), 7, 5, 6, 9, 10);
+  }
+
   static void promise13_dual_among_any_number_of_keepers() {
     for (int n = 4; n <= 16; n++) {
       MeetHouse x = Houses.equal(n);
@@ -340,6 +346,18 @@ public final class MadeOfOthersTest {
   static void promise16_better_within_its_own_keepers_alone() {
     MeetHouse x = sixteen();
     Houses.quorums("64 128 32768", x, x.better(Houses.told(x, 32832, 32896)), 10, 192, 32832, 32896);
+  }
+
+  static void promise16_better_within_its_own_keepers_with_gaps() {
+    MeetHouse x = sixteen();
+    Houses.quorums("1 4 16", x, x.better(Houses.told(x, 17, 20)), 10, 5, 17, 20);
+    Houses.quorums("2 32 128", x, x.better(Houses.told(x, 162)), 10, 2);
+    Houses.quorums("8 256 1024 16384", x, x.better(Houses.told(x, 1288, 16648, 17408)), 10, 1032, 1280, 16648, 17408);
+  }
+
+  static void promise16_better_of_an_older_family() {
+    MeetHouse x = Houses.ofFamilies(16, Houses.sets(17, 20), Houses.sets(1, 2, 4));
+    Houses.quorums("1 4 16", x, x.better(0), 10, 5, 17, 20);
   }
 
   static void promise16_better_is_its_own_dual() {

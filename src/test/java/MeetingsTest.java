@@ -152,6 +152,12 @@ public final class MeetingsTest {
     hitIs(32767, Houses.pairs(0, 16));
   }
 
+  static void promise21_hit_of_an_older_family() {
+    MeetHouse x = Houses.ofFamilies(16, Houses.sets(3, 12), Houses.sets(1, 16, 32768));
+    Due.accepted(x, "hit", 5, h -> h.hit(0));
+    Due.accepted(x, "hit again", 5, h -> h.hit(0));
+  }
+
   static void promise21_hit_no_such_family_refused_1() {
     for (int f : NO_FAMILY) Due.refused(1, MeetingsTest::house, h -> h.hit(f));
     Due.refused(1, Houses::full, h -> h.hit(24));
@@ -172,6 +178,11 @@ public final class MeetingsTest {
   static void promise22_falls_15_of_sixteen() {
     fallsIs(15, Houses.ones(0, 16));
     fallsIs(14, Houses.pairs(0, 16));
+  }
+
+  static void promise22_falls_of_an_older_family() {
+    MeetHouse x = Houses.ofFamilies(16, Houses.sets(3, 12), Houses.sets(1, 16, 32768));
+    Due.accepted(x, "falls", 1, h -> h.falls(0));
   }
 
   static void promise22_falls_no_such_family_refused_1() {
@@ -305,6 +316,12 @@ public final class MeetingsTest {
     MeetHouse x = Houses.ofTenths(0, 0, 0, 0, 0, 0, 0, 1, 0, 0, 0, 0, 0, 0, 0, 9);
     Houses.told(x, 32768 | 128, 1);
     Due.accepted(x, "7 and 15", 900000000000000L, h -> h.chance(0));
+  }
+
+  static void promise24_chance_of_an_older_family() {
+    MeetHouse x = Houses.ofFamilies(16, Houses.sets(3, 12), Houses.sets(1, 16, 32768));
+    Due.accepted(x, "chance", 4375000000000000L, h -> h.chance(0));
+    Due.accepted(x, "chance again", 4375000000000000L, h -> h.chance(0));
   }
 
   static void promise24_chance_no_such_family_refused_1() {

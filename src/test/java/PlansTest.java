@@ -216,6 +216,12 @@ public final class PlansTest {
     loadIs(x, 0, 1, 1, 15);
   }
 
+  static void promise28_load_of_one_part_of_1_is_1() {
+    MeetHouse x = Houses.equal(2);
+    x.even(Houses.told(x, 2));
+    loadIs(x, 0, 1, 1, 1);
+  }
+
   static void promise28_load_of_120_parts() {
     MeetHouse x = widest();
     loadIs(x, 0, 1, 8, 0);
@@ -284,6 +290,14 @@ public final class PlansTest {
 
   static void promise29_loadOf_a_keeper_of_no_quorum_is_0_by_1() {
     loadOfIs(house(), 6, 0, 1);
+  }
+
+  static void promise29_loadOf_is_0_by_1_behind_another_load() {
+    MeetHouse x = house();
+    loadOfIs(x, 3, 7, 10);
+    Due.is("upper", x.loadOf(6, false), 0);
+    loadOfIs(x, 3, 7, 10);
+    Due.is("lower", x.loadOf(6, true), 1);
   }
 
   static void promise29_loadOf_a_keeper_of_parts_of_0_is_0_by_1() {
@@ -373,6 +387,17 @@ public final class PlansTest {
     MeetHouse x = noPlan();
     x.weight(0, 1);
     boundIs(x, 0, 0, 1);
+  }
+
+  static void promise31_bound_is_0_by_1_behind_another_bound() {
+    MeetHouse x = noPlan();
+    for (int k = 0; k < 4; k++) x.weight(k, 1);
+    boundIs(x, 0, 2, 7);
+    for (int k = 0; k < 4; k++) x.weight(k, 0);
+    Due.is("upper", x.bound(0, false), 0);
+    x.even(0);
+    x.load(2);
+    Due.is("lower", x.bound(0, true), 1);
   }
 
   static void promise31_bound_least_sum_by_weights_times_strengths() {

@@ -210,6 +210,12 @@ public final class UndoTest {
     Due.is("fewest of two", x.family(f, 3), 2);
     Due.is("witness", x.witness(f), 1);
     Due.is("judge", x.judge(f), -2);
+    x.undo();
+    Houses.told(x, 3, 29);
+    x.undo();
+    f = Houses.told(x, 6);
+    Due.is("the most", x.family(f, 4), 2);
+    Due.is("the fewest", x.family(f, 3), 2);
   }
 
   // ---- weight, part, even, use
