@@ -813,20 +813,18 @@ public final class MeetHouse {
         }
 
         int strengthOf(int set) {
-            int sum = 0;
-            for (int k = 0; k < KEEPERS; k++) {
-                if (((set >> k) & 1) != 0) {
-                    sum += strengths[k];
-                }
-            }
-            return sum;
+            return sumOf(strengths, set);
         }
 
         int weightOf(int set) {
+            return sumOf(weights, set);
+        }
+
+        private static int sumOf(int[] numbers, int set) {
             int sum = 0;
-            for (int k = 0; k < KEEPERS; k++) {
+            for (int k = 0; k < KEEPERS && k < numbers.length; k++) {
                 if (((set >> k) & 1) != 0) {
-                    sum += weights[k];
+                    sum += numbers[k];
                 }
             }
             return sum;
