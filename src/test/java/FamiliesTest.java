@@ -207,6 +207,17 @@ public final class FamiliesTest {
     Due.refused(3, FamiliesTest::sixteen, h -> h.most(65535));
   }
 
+  static void promise07_most_behind_one_that_was_many() {
+    MeetHouse x = sixteen();
+    Due.is("many", x.most(65535), -1);
+    Houses.quorums("most(7)", x, x.most(7), 1, 3, 5, 6);
+  }
+
+  static void promise07_most_one_behind_the_other_counts_each_by_itself() {
+    MeetHouse x = sixteen();
+    for (int i = 0; i < 10; i++) Due.is("quorums of " + i, x.family(x.most(127 << i % 9), 1), 35);
+  }
+
   static void promise07_most_of_an_empty_set_refused_2() {
     Due.refused(2, FamiliesTest::house, h -> h.most(0));
   }
@@ -269,6 +280,12 @@ public final class FamiliesTest {
     Due.refused(3, FamiliesTest::sixteen, h -> h.grid(5, 3, 0));
     Due.refused(3, FamiliesTest::sixteen, h -> h.grid(7, 2, 0));
     Due.refused(3, FamiliesTest::sixteen, h -> h.grid(8, 2, 0));
+  }
+
+  static void promise08_grid_behind_one_that_was_many() {
+    MeetHouse x = sixteen();
+    Due.is("many", x.grid(8, 2, 0), -1);
+    Houses.quorums("2 x 2", x, x.grid(2, 2, 0), 2, 7, 11, 12);
   }
 
   static void promise08_grid_rows_too_few_refused_2() {
@@ -374,6 +391,12 @@ public final class FamiliesTest {
     Due.refused(3, FamiliesTest::sixteen, h -> h.wall(0, 3, 3, 3, 3, 4));
   }
 
+  static void promise09_wall_behind_one_that_was_many() {
+    MeetHouse x = sixteen();
+    Due.is("many", x.wall(0, 1, 3, 4, 4, 4), -1);
+    Houses.quorums("1 2", x, x.wall(0, 1, 2, 0, 0, 0), 3, 3, 5, 6);
+  }
+
   static void promise09_wall_first_length_0_refused_2() {
     Due.refused(2, FamiliesTest::house, h -> h.wall(0, 0, 0, 0, 0, 0));
     Due.refused(2, FamiliesTest::house, h -> h.wall(0, 0, 1, 1, 1, 1));
@@ -452,6 +475,12 @@ public final class FamiliesTest {
     Due.refused(3, FamiliesTest::sixteen, h -> h.tree(4, 0));
     Due.refused(3, FamiliesTest::sixteen, h -> h.tree(4, 1));
     Due.refused(3, () -> Houses.equal(15), h -> h.tree(4, 0));
+  }
+
+  static void promise10_tree_behind_one_that_was_many() {
+    MeetHouse x = sixteen();
+    Due.is("many", x.tree(4, 0), -1);
+    Houses.quorums("of depth 2", x, x.tree(2, 0), 4, 3, 5, 6);
   }
 
   static void promise10_tree_depth_too_small_refused_2() {
@@ -583,6 +612,43 @@ public final class FamiliesTest {
     for (int i = 0; i < 11; i++) {
       Due.is("number " + i, made[i], i);
       Due.is("kind " + i, x.family(made[i], 0), i);
+    }
+  }
+
+  private static int make(MeetHouse x, int kind) {
+    switch (kind) {
+      case 0:
+        return Houses.told(x, 5);
+      case 1:
+        return x.most(7);
+      case 2:
+        return x.grid(2, 2, 0);
+      case 3:
+        return x.wall(0, 1, 2, 0, 0, 0);
+      case 4:
+        return x.tree(2, 0);
+      case 5:
+        return x.plane(2, 0);
+      case 6:
+        return x.join(0, 0, 0);
+      case 7:
+        return x.dual(0);
+      case 8:
+        return x.thin(0, 127);
+      case 9:
+        return x.both(0, 0);
+      default:
+        return x.better(0);
+    }
+  }
+
+  static void promise17_family_of_each_kind_can_be_the_24th() {
+    for (int kind = 0; kind <= 10; kind++) {
+      MeetHouse x = Houses.filled(Houses.equal(7));
+      x.undo();
+      Due.is("its number", make(x, kind), 23);
+      Due.is("its kind", x.family(23, 0), kind);
+      Due.is("families", x.size(1), 24);
     }
   }
 

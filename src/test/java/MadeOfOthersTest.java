@@ -74,6 +74,12 @@ public final class MadeOfOthersTest {
     Due.refused(3, MadeOfOthersTest::eightByFifteenAndOne, h -> h.join(0, 0, 1));
   }
 
+  static void promise12_join_behind_one_that_was_many() {
+    MeetHouse x = eightByFifteenAndOne();
+    Due.is("many", x.join(0, 0, 1), -1);
+    Houses.quorums("by 15", x, x.join(0, 15, 1), 6, 3, 5, 9, 17, 33, 65, 129, 257, 510);
+  }
+
   static void promise12_join_no_such_first_family_refused_1() {
     for (int f : NO_FAMILY) Due.refused(1, MadeOfOthersTest::house, h -> h.join(f, 0, 0));
   }
@@ -178,6 +184,12 @@ public final class MadeOfOthersTest {
 
   static void promise13_dual_of_121_quorums_refused_3() {
     Due.refused(3, MadeOfOthersTest::blocksAndOne, h -> h.dual(0));
+  }
+
+  static void promise13_dual_behind_one_that_was_many() {
+    MeetHouse x = blocksAndOne();
+    Due.is("many", x.dual(0), -1);
+    Houses.quorums("of 3 12", x, x.dual(Houses.told(x, 3, 12)), 7, 5, 6, 9, 10);
   }
 
   static void promise13_dual_no_such_family_refused_1() {
@@ -293,6 +305,12 @@ public final class MadeOfOthersTest {
   static void promise15_both_of_121_quorums_refused_3() {
     Due.refused(3, MadeOfOthersTest::eightOnesByFifteenAndOne, h -> h.both(0, 1));
     Due.refused(3, MadeOfOthersTest::eightOnesByFifteenAndOne, h -> h.both(1, 0));
+  }
+
+  static void promise15_both_behind_one_that_was_many() {
+    MeetHouse x = eightOnesByFifteenAndOne();
+    Due.is("many", x.both(0, 1), -1);
+    Houses.quorums("1 and 32768", x, x.both(Houses.told(x, 1), Houses.told(x, 32768)), 9, 32769);
   }
 
   static void promise15_both_no_such_first_family_refused_1() {
@@ -430,6 +448,12 @@ public final class MadeOfOthersTest {
     x.grid(4, 4, 0);
     Houses.told(x, 1, 2);
     return x;
+  }
+
+  static void promise16_better_behind_one_that_was_many() {
+    MeetHouse x = gridAndSplit();
+    Due.is("many", x.better(0), -1);
+    Houses.quorums("of 17 20", x, x.better(Houses.told(x, 17, 20)), 10, 5, 17, 20);
   }
 
   static void promise16_better_two_do_not_meet_refused_7() {

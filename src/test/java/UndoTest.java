@@ -110,6 +110,22 @@ public final class UndoTest {
     Due.is("weight", x.keeperOf(0, 2), 0);
   }
 
+  /** Of keepers and families that are gone nothing is left in what is made among fewer keepers. */
+  static void promise42_undo_keepers_then_families_among_fewer() {
+    MeetHouse x = Houses.equal(16);
+    x.even(x.dual(Houses.told(x, 49152, 3)));
+    x.chance(0);
+    for (int i = 0; i < 16; i++) x.undo();
+    Due.is("keepers", x.size(0), 3);
+    Due.is("a set of one that is gone", x.list(8), -1);
+    Houses.quorums("dual", x, x.dual(Houses.told(x, 3, 4)), 7, 5, 6);
+    Due.is("hit", x.hit(0), 5);
+    Due.is("chance", x.chance(0), 6250000000000000L);
+    x.even(0);
+    Due.is("load", x.load(1) * 10 + x.load(2), 12);
+    Due.is("of no such keeper", x.loadOf(3, false), -1);
+  }
+
   static void promise42_undo_tenths() {
     goesBack(h -> h.tenths(3, 0));
     goesBack(h -> h.tenths(6, 10));
